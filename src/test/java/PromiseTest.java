@@ -709,6 +709,26 @@ public final class PromiseTest {
         check.due("stage(2) elsewhere", x.stage(2), 1);
         check.due("nodes(2, 0) elsewhere", x.nodes(2, 0), 2);
         check.due("crash(1) again", x.crash(1), DOWN);
+        fresh("9 crash when committing");
+        decided();
+        check.due("nodes(0, 3)", x.nodes(0, 3), 6);
+        check.due("crash(0)", x.crash(0), 0);
+        check.due("stage(0)", x.stage(0), 0);
+        dueSets(0, 0, 0, 0, 0);
+        fresh("9 crash and 10 recover with ten transactions");
+        for (int t = 0; t < 10; t++) {
+            x.begin(0);
+        }
+        x.work(9, 0, 0);
+        x.commit(9);
+        deliverFirst(2);
+        check.due("crash(0)", x.crash(0), 0);
+        check.due("stage(9)", x.stage(9), 0);
+        check.due("state(0, 9)", x.state(0, 9), 0);
+        check.due("recover(0)", x.recover(0), 2);
+        check.due("stage(9)", x.stage(9), 3);
+        check.due("state(0, 9)", x.state(0, 9), 3);
+        check.due("stage(8)", x.stage(8), 0);
     }
 
     private void recoverStates() {
