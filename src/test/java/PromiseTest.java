@@ -1,24 +1,6 @@
 /** For each promise of the document: ordinary inputs, the edges that it names, and wrong inputs. */
-public final class PromiseTest {
-    private static final int NONE = AbsentMeansAbort.NONE;
-    private static final int BAD = AbsentMeansAbort.BAD;
-    private static final int DOWN = AbsentMeansAbort.DOWN;
-    private static final int LATE = AbsentMeansAbort.LATE;
-    private static final int FULL = AbsentMeansAbort.FULL;
-
-    private static final int PREPARE = 1;
-    private static final int YES = 2;
-    private static final int READ = 3;
-    private static final int NO = 4;
-    private static final int COMMIT = 5;
-    private static final int ABORT = 6;
-    private static final int ACK = 7;
-    private static final int INQUIRY = 8;
-
+public final class PromiseTest extends Bench {
     private static final int[] NUMBERS_OF_NOTHING = {-1, -2, 4, 10, Integer.MIN_VALUE, Integer.MAX_VALUE};
-
-    private final Checks check = new Checks();
-    private AbsentMeansAbort x;
 
     public static void main(String[] args) {
         PromiseTest test = new PromiseTest();
@@ -56,49 +38,11 @@ public final class PromiseTest {
         test.check.finish();
     }
 
-    private void fresh(String topic) {
-        check.about(topic);
-        x = new AbsentMeansAbort();
-    }
-
-    private void dueMessage(int k, int kind, int sender, int receiver, int t) {
-        check.due("message(" + k + ", 0)", x.message(k, 0), kind);
-        check.due("message(" + k + ", 1)", x.message(k, 1), sender);
-        check.due("message(" + k + ", 2)", x.message(k, 2), receiver);
-        check.due("message(" + k + ", 3)", x.message(k, 3), t);
-    }
-
-    private void dueRecord(int node, int k, int entry, int content) {
-        check.due("entry(" + node + ", " + k + ")", x.entry(node, k), entry);
-        check.due("content(" + node + ", " + k + ")", x.content(node, k), content);
-    }
-
-    private void dueSets(int t, int members, int yes, int read, int due) {
-        check.due("nodes(" + t + ", 0)", x.nodes(t, 0), members);
-        check.due("nodes(" + t + ", 1)", x.nodes(t, 1), yes);
-        check.due("nodes(" + t + ", 2)", x.nodes(t, 2), read);
-        check.due("nodes(" + t + ", 3)", x.nodes(t, 3), due);
-    }
-
-    private void deliverFirst(int times) {
-        for (int i = 0; i < times; i++) {
-            x.deliver(0);
-        }
-    }
-
-    /** Transaction 0 of coordinator 0 holds resource 5 at nodes 1 and 2, and both have said YES. */
-    private void decided() {
-        x.begin(0);
-        x.work(0, 1, 5);
-        x.work(0, 2, 5);
-        x.commit(0);
-        deliverFirst(4);
-    }
-
     private void newObject() {
         fresh("1 a new object");
         String node = "up held:-1,-1,-1,-1,-1,-1,-1,-1, log:0/0/0=";
-        check.due("all asking calls", Snapshot.of(x), " n0" + node + " n1" + node + " n2" + node + " n3" + node + " row:");
+        String all = " n0" + node + " n1" + node + " n2" + node + " n3" + node + " row:";
+        check.due("all asking calls", Snapshot.of(x), all);
         check.due("stage(0)", x.stage(0), BAD);
         check.due("messages()", x.messages(), 0);
         AbsentMeansAbort other = new AbsentMeansAbort();
